@@ -495,10 +495,11 @@ public final class NetWalkers {
 
         boolean isReady() {
             for (int post = 0; post < size; post++) {
-                if (!hasFirstDoors(post) || degreeOf(post) == 0 && size > 1) {
+                if (!hasFirstDoors(post)) {
                     return false;
                 }
             }
+            // A post without doors, where there are more posts, does not hang together with them.
             return reachedFromFirst() == allPosts();
         }
 
@@ -549,8 +550,8 @@ public final class NetWalkers {
     private static final class Hands {
         private static final int HAND_BITS = 2;
         private static final int POST_AT = HAND_BITS * POSTS_MOST;
-        // Ahead of the ring and round it are SENT_MOST steps or less; the mark is then on the ring
-        // and far enough from the next mark after less than twice as many, and met one ring later.
+        // If a state comes again within SENT_MOST steps, a mark set before step 2 * SENT_MOST stands
+        // on the ring, with no other mark for one ring's length: there it is met again.
         private static final int SEARCH_MOST = 3 * SENT_MOST;
 
         private final Net net;

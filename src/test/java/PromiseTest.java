@@ -132,7 +132,9 @@ public final class PromiseTest {
         due("2 told(1)", x.told(1), 2);
         due("2 posts(3)", x.posts(3), 3);
         due("2 told(1) anew", x.told(1), 0);
-        due("2 degree(1) anew", x.degree(1), 0);
+        for (int post = 0; post < 3; post++) {
+            due("2 degree anew", x.degree(post), 0);
+        }
         due("2 leads(0, 0) anew", x.leads(0, 0), NONE);
         due("2 told(4) anew", x.told(4), 0);
         due("2 the row stays", x.told(2), 2);
@@ -410,6 +412,17 @@ public final class PromiseTest {
         due("14 a ring of 19984", y.sent(3, 2), 19984);
         due("14 15 ahead", y.sent(5, 1), 15);
         due("14 all", y.sent(5, 0), 16);
+        // A ring of 20128 steps, and one of more than 60000.
+        NetWalkers far = foundNet(new int[] {0, 9, 1, 24, 2, 23, 3, 21, 4, 28, 5, 20, 6, 19, 7, 15, 8, 16, 10, 31, 11, 12,
+            13, 29, 14, 17, 18, 26, 22, 30, 25, 27}, 1, 27);
+        due("14 ahead of a ring of 20128", far.sent(6, 1), SPENT);
+        due("14 a ring of 20128", far.sent(6, 2), SPENT);
+        due("14 all", far.sent(6, 0), 15);
+        NetWalkers farther = foundNet(new int[] {0, 8, 1, 10, 2, 12, 3, 23, 4, 17, 5, 20, 6, 28, 7, 26, 9, 19, 11, 27, 13,
+            16, 14, 22, 15, 30, 18, 31, 21, 25, 24, 29}, 9);
+        due("14 ahead of a ring of over 60000", farther.sent(0, 1), SPENT);
+        due("14 a ring of over 60000", farther.sent(0, 2), SPENT);
+        due("14 all", farther.sent(0, 0), 16);
         // A net that is slow to walk.
         NetWalkers z = foundNet(new int[] {0, 5, 1, 13, 2, 24, 3, 10, 4, 15, 6, 21, 7, 25, 8, 26, 9, 30, 11, 12, 14, 29,
             16, 22, 17, 19, 18, 23, 20, 31, 27, 28}, 0, 1, 2, 6, 8, 9, 14, 17, 18, 22);
@@ -470,6 +483,9 @@ public final class PromiseTest {
         due("16 other door numbers, depth 0", crossed.look(1, 0), 0);
         due("16 other door numbers, depth 1", crossed.look(1, 1), 1);
         due("16 bad doors are not seen", bad(twins, 0, 0).look(1, 20), 0);
+        due("16 all doors", net(2, 0, 0, 1, 1, 1, 0, 0, 1, 0, 2, 1, 3, 1, 2, 0, 3).look(1, 20), 0);
+        due("16 all doors but the last one", net(2, 0, 0, 1, 1, 1, 0, 0, 1, 0, 2, 0, 3, 1, 3, 1, 2).look(1, 20), 0);
+        due("16 the last door alone", net(3, 0, 0, 0, 1, 0, 2, 1, 2, 1, 0, 1, 1, 0, 3, 2, 0, 1, 3, 2, 1).look(1, 1), 1);
         due("16 the least post has class 0", net(3, 0, 0, 1, 1, 1, 0, 2, 0).look(0, 0), 0);
         due("16 one post", net(1).look(0, 20), 0);
         due("16 post 8", x.look(8, 0), UNKNOWN);
@@ -546,6 +562,8 @@ public final class PromiseTest {
         due("20 the second comes after its wait", x.meet(3, 0, 5, false), 3);
         due("20 to one who stands at the end", add(line3(), 0, 0).meet(0, 2, 2, false), 3);
         due("20 the other row", x.meet(0, 2, 0, true), 1);
+        due("20 as if come by door 0", add(net(2, 0, 0, 1, 0, 0, 1, 0, 2), 0, 0).meet(0, 1, 5, true), 1);
+        due("20 the second, too", add(net(2, 0, 0, 1, 0, 0, 1, 0, 2), 1, 0).meet(1, 0, 5, true), 6);
         due("20 past one another", x.meet(0, 2, 1, true), NONE);
         due("20 the other row, and a wait", x.meet(1, 3, 1, true), 3);
         due("20 after a long wait", add(net(2, 0, 0, 1, 0), 1, 0).meet(0, 1, 20, true), 21);
