@@ -42,65 +42,6 @@ public final class PromiseTest {
         CHECKS.due(call, got, want);
     }
 
-    // ---- nets to ask about
-
-    /** joins: a post, its door, a post, its door, and so on. */
-    private static NetWalkers net(int posts, int... joins) {
-        NetWalkers x = new NetWalkers();
-        x.posts(posts);
-        for (int k = 0; k + 3 < joins.length; k += 4) {
-            x.join(joins[k], joins[k + 1], joins[k + 2], joins[k + 3]);
-        }
-        return x;
-    }
-
-    private static NetWalkers add(NetWalkers x, int which, int... numbers) {
-        for (int number : numbers) {
-            x.add(which, number);
-        }
-        return x;
-    }
-
-    private static NetWalkers bad(NetWalkers x, int... doors) {
-        for (int k = 0; k + 1 < doors.length; k += 2) {
-            x.bad(doors[k], doors[k + 1], true);
-        }
-        return x;
-    }
-
-    /** Door 0 of each post leads to door 1 of the one after it. */
-    private static NetWalkers ringNet(int posts) {
-        NetWalkers x = new NetWalkers();
-        x.posts(posts);
-        for (int post = 0; post < posts; post++) {
-            x.join(post, 0, (post + 1) % posts, 1);
-        }
-        return x;
-    }
-
-    /** 0 - 1 - 2: the post in the middle has door 0 to post 0 and door 1 to post 2. */
-    private static NetWalkers line3() {
-        return net(3, 0, 0, 1, 0, 1, 1, 2, 0);
-    }
-
-    /** 0 - 1 - 2 - 3, in the same way. */
-    private static NetWalkers line4() {
-        return net(4, 0, 0, 1, 0, 1, 1, 2, 0, 2, 1, 3, 0);
-    }
-
-    /** Doors of a net that a search found are told as 4 * post + door. */
-    private static NetWalkers foundNet(int[] pairs, int... badDoors) {
-        NetWalkers x = new NetWalkers();
-        x.posts(8);
-        for (int k = 0; k + 1 < pairs.length; k += 2) {
-            x.join(pairs[k] / 4, pairs[k] % 4, pairs[k + 1] / 4, pairs[k + 1] % 4);
-        }
-        for (int door : badDoors) {
-            x.bad(door / 4, door % 4, true);
-        }
-        return x;
-    }
-
     // ---- 1 nets
 
     private static void promise1ANewObject() {
@@ -123,7 +64,7 @@ public final class PromiseTest {
     }
 
     private static void promise2Posts() {
-        NetWalkers x = add(bad(line3(), 0, 0, 2, 3), 0, 1, 2);
+        NetWalkers x = Nets.add(Nets.bad(Nets.line(3), 0, 0, 2, 3), 0, 1, 2);
         x.add(1, 5);
         due("2 posts(0)", x.posts(0), OUTSIDE);
         due("2 posts(9)", x.posts(9), OUTSIDE);
@@ -163,7 +104,7 @@ public final class PromiseTest {
         due("3 door -1", x.join(0, 2, 1, -1), UNKNOWN);
         due("3 UNKNOWN ahead of NO", x.join(0, 0, 1, 4), UNKNOWN);
         due("3 told(1)", x.told(1), 2);
-        due("3 bad doors join too", bad(new NetWalkers(), 0, 1).join(0, 1, 1, 1), 1);
+        due("3 bad doors join too", Nets.bad(new NetWalkers(), 0, 1).join(0, 1, 1, 1), 1);
         due("3 all doors", manyPairs(), 16);
     }
 
@@ -179,7 +120,7 @@ public final class PromiseTest {
     }
 
     private static void promise4Part() {
-        NetWalkers x = net(3, 0, 0, 2, 3, 1, 1, 1, 2);
+        NetWalkers x = Nets.net(3, 0, 0, 2, 3, 1, 1, 1, 2);
         x.bad(0, 0, true);
         due("4 part(0, 1)", x.part(0, 1), NONE);
         due("4 part(3, 0)", x.part(3, 0), UNKNOWN);
@@ -198,7 +139,7 @@ public final class PromiseTest {
     }
 
     private static void promise5Bad() {
-        NetWalkers x = line3();
+        NetWalkers x = Nets.line(3);
         due("5 bad(0, 0, true)", x.bad(0, 0, true), 0);
         due("5 once more", x.bad(0, 0, true), 1);
         due("5 told(4)", x.told(4), 1);
@@ -216,13 +157,13 @@ public final class PromiseTest {
     }
 
     private static void promise6Leads() {
-        NetWalkers x = net(3, 0, 0, 2, 3, 1, 1, 1, 2);
+        NetWalkers x = Nets.net(3, 0, 0, 2, 3, 1, 1, 1, 2);
         due("6 leads(0, 0)", x.leads(0, 0), 23);
         due("6 leads(2, 3)", x.leads(2, 3), 0);
         due("6 leads(1, 1)", x.leads(1, 1), 12);
         due("6 leads(1, 2)", x.leads(1, 2), 11);
         due("6 leads(0, 1)", x.leads(0, 1), NONE);
-        bad(x, 0, 1, 2, 3, 1, 2);
+        Nets.bad(x, 0, 1, 2, 3, 1, 2);
         due("6 not joined and bad", x.leads(0, 1), NONE);
         due("6 bad", x.leads(2, 3), 23);
         due("6 bad to the same post", x.leads(1, 2), 12);
@@ -234,33 +175,33 @@ public final class PromiseTest {
     }
 
     private static void promise7Ready() {
-        due("7 line", line3().ready(), 1);
-        due("7 bad doors count as joined", bad(line3(), 0, 0, 1, 0).ready(), 1);
-        due("7 one post", net(1).ready(), 1);
-        due("7 one post, doors 0 and 1", net(1, 0, 0, 0, 1).ready(), 1);
-        due("7 one post, doors 0 and 3", net(1, 0, 0, 0, 3).ready(), 0);
-        due("7 one post, all doors", net(1, 0, 0, 0, 3, 0, 1, 0, 2).ready(), 1);
-        due("7 two posts", net(2).ready(), 0);
-        due("7 a post without doors", net(3, 0, 0, 1, 0).ready(), 0);
-        due("7 a door left out", net(2, 0, 1, 1, 0).ready(), 0);
-        due("7 a door left out above", net(2, 0, 0, 1, 0, 0, 2, 1, 1).ready(), 0);
-        due("7 in two parts", net(4, 0, 0, 1, 0, 2, 0, 3, 0).ready(), 0);
-        due("7 in two parts of two doors", net(4, 0, 0, 1, 0, 0, 1, 1, 1, 2, 0, 3, 0, 2, 1, 3, 1).ready(), 0);
-        due("7 the last post hangs first", net(4, 0, 0, 3, 0, 3, 1, 2, 0, 2, 1, 1, 0).ready(), 1);
-        due("7 a far line", net(8, 0, 0, 7, 0, 7, 1, 6, 0, 6, 1, 5, 0, 5, 1, 4, 0, 4, 1, 3, 0, 3, 1, 2, 0, 2, 1, 1, 0).ready(), 1);
-        NetWalkers x = line3();
+        due("7 line", Nets.line(3).ready(), 1);
+        due("7 bad doors count as joined", Nets.bad(Nets.line(3), 0, 0, 1, 0).ready(), 1);
+        due("7 one post", Nets.net(1).ready(), 1);
+        due("7 one post, doors 0 and 1", Nets.net(1, 0, 0, 0, 1).ready(), 1);
+        due("7 one post, doors 0 and 3", Nets.net(1, 0, 0, 0, 3).ready(), 0);
+        due("7 one post, all doors", Nets.net(1, 0, 0, 0, 3, 0, 1, 0, 2).ready(), 1);
+        due("7 two posts", Nets.net(2).ready(), 0);
+        due("7 a post without doors", Nets.net(3, 0, 0, 1, 0).ready(), 0);
+        due("7 a door left out", Nets.net(2, 0, 1, 1, 0).ready(), 0);
+        due("7 a door left out above", Nets.net(2, 0, 0, 1, 0, 0, 2, 1, 1).ready(), 0);
+        due("7 in two parts", Nets.net(4, 0, 0, 1, 0, 2, 0, 3, 0).ready(), 0);
+        due("7 in two parts of two doors", Nets.net(4, 0, 0, 1, 0, 0, 1, 1, 1, 2, 0, 3, 0, 2, 1, 3, 1).ready(), 0);
+        due("7 the last post hangs first", Nets.net(4, 0, 0, 3, 0, 3, 1, 2, 0, 2, 1, 1, 0).ready(), 1);
+        due("7 a far line", Nets.net(8, 0, 0, 7, 0, 7, 1, 6, 0, 6, 1, 5, 0, 5, 1, 4, 0, 4, 1, 3, 0, 3, 1, 2, 0, 2, 1, 1, 0).ready(), 1);
+        NetWalkers x = Nets.line(3);
         x.part(1, 1);
         due("7 parted", x.ready(), 0);
     }
 
     private static void promise8Degree() {
-        NetWalkers x = net(3, 0, 0, 1, 0, 1, 3, 1, 2);
+        NetWalkers x = Nets.net(3, 0, 0, 1, 0, 1, 3, 1, 2);
         due("8 degree(0)", x.degree(0), 1);
         due("8 degree(1)", x.degree(1), 3);
         due("8 degree(2)", x.degree(2), 0);
         due("8 degree(3)", x.degree(3), UNKNOWN);
         due("8 degree(-1)", x.degree(-1), UNKNOWN);
-        due("8 bad doors count", bad(x, 1, 0).degree(1), 3);
+        due("8 bad doors count", Nets.bad(x, 1, 0).degree(1), 3);
         x.part(1, 2);
         due("8 parted", x.degree(1), 1);
     }
@@ -287,7 +228,7 @@ public final class PromiseTest {
     }
 
     private static void promise10Clear() {
-        NetWalkers x = add(add(line3(), 0, 1, 2, 3), 1, 4);
+        NetWalkers x = Nets.add(Nets.add(Nets.line(3), 0, 1, 2, 3), 1, 4);
         due("10 clear(2)", x.clear(2), OUTSIDE);
         due("10 clear(-1)", x.clear(-1), OUTSIDE);
         due("10 clear(0)", x.clear(0), 3);
@@ -300,7 +241,7 @@ public final class PromiseTest {
     }
 
     private static void promise11After() {
-        NetWalkers x = add(line4(), 0, 0, 1, 1, 3, 0);
+        NetWalkers x = Nets.add(Nets.line(4), 0, 0, 1, 1, 3, 0);
         int[] byTurns = {0, 1, 2, 3, 2, 3};
         int[] byDoors = {0, 1, 2, 3, 2, 1};
         for (int t = 0; t <= 5; t++) {
@@ -308,13 +249,13 @@ public final class PromiseTest {
             due("11 by doors " + t, x.after(0, 1, t), byDoors[t]);
         }
         // Come by door 0, and 0: back by the same door.
-        due("11 as if come by door 0", add(line3(), 0, 0).after(1, 0, 1), 0);
-        due("11 and by door 1", add(line3(), 0, 1).after(1, 0, 1), 2);
-        due("11 come by door 1, and 0", add(line3(), 0, 1, 0, 0).after(1, 0, 3), 2);
-        due("11 big numbers go round", add(ringNet(5), 0, 9, 8, 7).after(0, 1, 3), 4);
-        due("11 a bad door brings back", bad(add(line3(), 0, 1, 1), 1, 1).after(1, 0, 1), 1);
-        due("11 by the same door", bad(add(line3(), 0, 1, 1), 1, 1).after(1, 0, 2), 0);
-        due("11 one post", add(net(1), 0, 3, 4).after(0, 0, 2), 0);
+        due("11 as if come by door 0", Nets.add(Nets.line(3), 0, 0).after(1, 0, 1), 0);
+        due("11 and by door 1", Nets.add(Nets.line(3), 0, 1).after(1, 0, 1), 2);
+        due("11 come by door 1, and 0", Nets.add(Nets.line(3), 0, 1, 0, 0).after(1, 0, 3), 2);
+        due("11 big numbers go round", Nets.add(Nets.ring(5), 0, 9, 8, 7).after(0, 1, 3), 4);
+        due("11 a bad door brings back", Nets.bad(Nets.add(Nets.line(3), 0, 1, 1), 1, 1).after(1, 0, 1), 1);
+        due("11 by the same door", Nets.bad(Nets.add(Nets.line(3), 0, 1, 1), 1, 1).after(1, 0, 2), 0);
+        due("11 one post", Nets.add(Nets.net(1), 0, 3, 4).after(0, 0, 2), 0);
         due("11 post 4", x.after(4, 0, 0), UNKNOWN);
         due("11 post -1", x.after(-1, 0, 0), UNKNOWN);
         due("11 how 2", x.after(0, 2, 0), OUTSIDE);
@@ -328,7 +269,7 @@ public final class PromiseTest {
     }
 
     private static void promise12Walks() {
-        NetWalkers x = add(line4(), 0, 0, 1, 1, 3, 0);
+        NetWalkers x = Nets.add(Nets.line(4), 0, 0, 1, 1, 3, 0);
         due("12 walks(0, 0)", x.walks(0, 0), 3);
         due("12 walks(0, 1)", x.walks(0, 1), 3);
         due("12 walks(3, 0)", x.walks(3, 0), 3);
@@ -336,11 +277,11 @@ public final class PromiseTest {
         due("12 walks(2, 0)", x.walks(2, 0), NONE);
         due("12 walks(1, 1)", x.walks(1, 1), 4);
         due("12 walks(2, 1)", x.walks(2, 1), NONE);
-        due("12 to the last number", add(line4(), 0, 0, 1, 1).walks(0, 0), 3);
-        due("12 a number too few", add(line4(), 0, 0, 1).walks(0, 0), NONE);
-        due("12 without a row", line3().walks(0, 0), NONE);
-        due("12 one post", net(1).walks(0, 1), 0);
-        due("12 a bad door", bad(add(line4(), 0, 0, 1, 1), 1, 1).walks(0, 0), NONE);
+        due("12 to the last number", Nets.add(Nets.line(4), 0, 0, 1, 1).walks(0, 0), 3);
+        due("12 a number too few", Nets.add(Nets.line(4), 0, 0, 1).walks(0, 0), NONE);
+        due("12 without a row", Nets.line(3).walks(0, 0), NONE);
+        due("12 one post", Nets.net(1).walks(0, 1), 0);
+        due("12 a bad door", Nets.bad(Nets.add(Nets.line(4), 0, 0, 1, 1), 1, 1).walks(0, 0), NONE);
         due("12 post 4", x.walks(4, 0), UNKNOWN);
         due("12 post -1", x.walks(-1, 2), UNKNOWN);
         due("12 how 2", x.walks(0, 2), OUTSIDE);
@@ -351,12 +292,12 @@ public final class PromiseTest {
     }
 
     private static void promise13Fails() {
-        NetWalkers x = add(line4(), 0, 0, 1, 1);
+        NetWalkers x = Nets.add(Nets.line(4), 0, 0, 1, 1);
         // By turns post 1 sees 1 0 1 2, and post 2 sees 2 1 0 1; by doors post 2 sees 2 1 2 3, and post 3 sees 3 2 3 2.
         due("13 fails(0)", x.fails(0), 0b0110);
         due("13 fails(1)", x.fails(1), 0b1110);
-        due("13 without a row", line3().fails(0), 0b111);
-        due("13 one post", net(1).fails(0), 0);
+        due("13 without a row", Nets.line(3).fails(0), 0b111);
+        due("13 one post", Nets.net(1).fails(0), 0);
         due("13 how 2", x.fails(2), OUTSIDE);
         due("13 how -1", x.fails(-1), OUTSIDE);
         due("13 not ready", new NetWalkers().fails(1), STATE);
@@ -365,27 +306,27 @@ public final class PromiseTest {
 
     private static void promise14Sent() {
         // From 0 the walker is at 0 1 0 1 2 1 0 ..; at 0 it never is again while the hand of 1 is at door 0.
-        NetWalkers x = line3();
+        NetWalkers x = Nets.line(3);
         due("14 line, all", x.sent(0, 0), 4);
         due("14 line, ahead", x.sent(0, 1), 1);
         due("14 line, ahead from the middle", x.sent(1, 1), 0);
         due("14 line, ring", x.sent(0, 2), 4);
         due("14 from the middle", x.sent(1, 0), 3);
-        NetWalkers ring = ringNet(5);
+        NetWalkers ring = Nets.ring(5);
         due("14 ring, all", ring.sent(2, 0), 4);
         due("14 ring, ring", ring.sent(2, 2), 10);
         // From 2 the walker goes to 1, to 0, and stays there.
-        NetWalkers barred = bad(line3(), 0, 0);
+        NetWalkers barred = Nets.bad(Nets.line(3), 0, 0);
         due("14 barred, all", barred.sent(2, 0), 2);
         due("14 barred, ahead", barred.sent(2, 1), 2);
         due("14 barred, ring", barred.sent(2, 2), 1);
         due("14 barred in, all", barred.sent(0, 0), NONE);
         due("14 barred in, ahead", barred.sent(0, 1), 0);
         // The hand moves on at a bad door, too.
-        due("14 hands move on at bad doors", bad(net(2, 0, 0, 1, 0, 0, 1, 1, 1), 0, 0).sent(0, 0), 2);
-        due("14 one post, all", net(1).sent(0, 0), 0);
-        due("14 one post, ahead", net(1).sent(0, 1), 0);
-        due("14 one post, ring", net(1).sent(0, 2), 1);
+        due("14 hands move on at bad doors", Nets.bad(Nets.net(2, 0, 0, 1, 0, 0, 1, 1, 1), 0, 0).sent(0, 0), 2);
+        due("14 one post, all", Nets.net(1).sent(0, 0), 0);
+        due("14 one post, ahead", Nets.net(1).sent(0, 1), 0);
+        due("14 one post, ring", Nets.net(1).sent(0, 2), 1);
         due("14 post 3", x.sent(3, 0), UNKNOWN);
         due("14 post -1", x.sent(-1, 3), UNKNOWN);
         due("14 what 3", x.sent(0, 3), OUTSIDE);
@@ -397,8 +338,7 @@ public final class PromiseTest {
 
     private static void promise14SentFar() {
         // The ring is closed after 20000 steps from post 2, after 20001 from post 4.
-        NetWalkers x = foundNet(new int[] {0, 19, 1, 23, 2, 29, 3, 26, 4, 12, 5, 8, 6, 31, 7, 21, 9, 15, 10, 13, 11, 16,
-            14, 27, 17, 24, 18, 30, 20, 28, 22, 25}, 5, 11, 12, 21, 26, 28);
+        NetWalkers x = Nets.closedAt20000();
         due("14 all", x.sent(2, 0), 19);
         due("14 none ahead of a ring of 20000", x.sent(2, 1), 0);
         due("14 a ring of 20000", x.sent(2, 2), 20000);
@@ -406,39 +346,35 @@ public final class PromiseTest {
         due("14 a ring of 20000 behind one", x.sent(4, 2), SPENT);
         due("14 all, where the ring is too long", x.sent(4, 0), 13);
         // Ahead of a ring of 19984 steps are 16 from post 3, and 15 from post 5.
-        NetWalkers y = foundNet(new int[] {0, 19, 1, 23, 2, 4, 3, 27, 5, 18, 6, 22, 7, 31, 8, 17, 9, 28, 10, 25, 11, 16,
-            12, 29, 13, 26, 14, 21, 15, 20, 24, 30}, 7, 9, 21, 25, 27, 30);
+        NetWalkers y = Nets.closedAt20000Behind16();
         due("14 16 ahead", y.sent(3, 1), 16);
         due("14 a ring of 19984", y.sent(3, 2), 19984);
         due("14 15 ahead", y.sent(5, 1), 15);
         due("14 all", y.sent(5, 0), 16);
         // A ring of 20128 steps, and one of more than 60000.
-        NetWalkers far = foundNet(new int[] {0, 9, 1, 24, 2, 23, 3, 21, 4, 28, 5, 20, 6, 19, 7, 15, 8, 16, 10, 31, 11, 12,
-            13, 29, 14, 17, 18, 26, 22, 30, 25, 27}, 1, 27);
+        NetWalkers far = Nets.closedAt20128();
         due("14 ahead of a ring of 20128", far.sent(6, 1), SPENT);
         due("14 a ring of 20128", far.sent(6, 2), SPENT);
         due("14 all", far.sent(6, 0), 15);
-        NetWalkers farther = foundNet(new int[] {0, 8, 1, 10, 2, 12, 3, 23, 4, 17, 5, 20, 6, 28, 7, 26, 9, 19, 11, 27, 13,
-            16, 14, 22, 15, 30, 18, 31, 21, 25, 24, 29}, 9);
+        NetWalkers farther = Nets.closedBehind60000();
         due("14 ahead of a ring of over 60000", farther.sent(0, 1), SPENT);
         due("14 a ring of over 60000", farther.sent(0, 2), SPENT);
         due("14 all", farther.sent(0, 0), 16);
         // A net that is slow to walk.
-        NetWalkers z = foundNet(new int[] {0, 5, 1, 13, 2, 24, 3, 10, 4, 15, 6, 21, 7, 25, 8, 26, 9, 30, 11, 12, 14, 29,
-            16, 22, 17, 19, 18, 23, 20, 31, 27, 28}, 0, 1, 2, 6, 8, 9, 14, 17, 18, 22);
+        NetWalkers z = Nets.slowToWalk();
         due("14 all, late", z.sent(0, 0), 3636);
     }
 
     private static void promise15Next() {
-        due("15 line", line4().next(2), 0b1111);
-        due("15 ring", ringNet(5).next(3), 0b11111);
-        due("15 one post", net(1).next(0), 1);
-        due("15 one post with doors", net(1, 0, 0, 0, 1).next(0), 1);
+        due("15 line", Nets.line(4).next(2), 0b1111);
+        due("15 ring", Nets.ring(5).next(3), 0b11111);
+        due("15 one post", Nets.net(1).next(0), 1);
+        due("15 one post with doors", Nets.net(1, 0, 0, 0, 1).next(0), 1);
         // A bad door turns one round into a walk to and fro.
-        due("15 bad", bad(line4(), 1, 1).next(0), 0b0011);
-        due("15 bad behind", bad(line4(), 1, 1).next(3), 0b1111);
+        due("15 bad", Nets.bad(Nets.line(4), 1, 1).next(0), 0b0011);
+        due("15 bad behind", Nets.bad(Nets.line(4), 1, 1).next(3), 0b1111);
         // A ring of 0, 1, 2 with post 3 outside it: who goes round inside never sees it.
-        NetWalkers x = net(4, 0, 0, 1, 1, 1, 0, 2, 1, 2, 0, 0, 1, 0, 2, 3, 0);
+        NetWalkers x = Nets.net(4, 0, 0, 1, 1, 1, 0, 2, 1, 2, 0, 0, 1, 0, 2, 3, 0);
         due("15 left out", x.next(0), 0b0111);
         due("15 left out, from 1", x.next(1), 0b0111);
         due("15 from 3", x.next(3), 0b1111);
@@ -450,23 +386,8 @@ public final class PromiseTest {
 
     // ---- 3 looks
 
-    /** A line of posts: door 0 leads to the post before, door 1 to the one behind; post 0 has door 0 alone. */
-    private static NetWalkers line(int posts) {
-        NetWalkers x = new NetWalkers();
-        x.posts(posts);
-        for (int post = 0; post + 1 < posts; post++) {
-            x.join(post, post == 0 ? 0 : 1, post + 1, 0);
-        }
-        return x;
-    }
-
-    /** A net in which one must look 6 deep, found by a search. */
-    private static NetWalkers deepNet() {
-        return foundNet(new int[] {0, 16, 1, 10, 2, 9, 4, 20, 5, 14, 6, 13, 8, 28, 12, 26, 17, 18, 21, 30, 22, 29, 24, 25});
-    }
-
     private static void promise16Look() {
-        NetWalkers x = line(8);
+        NetWalkers x = Nets.line(8);
         // The degrees; then the ends' doors, and those who see the ends; and so on inwards.
         int[][] due = {
             {0, 1, 1, 1, 1, 1, 1, 0}, {0, 1, 2, 2, 2, 2, 3, 4}, {0, 1, 2, 3, 3, 4, 5, 6}, {0, 1, 2, 3, 4, 5, 6, 7}};
@@ -475,19 +396,19 @@ public final class PromiseTest {
                 due("16 look(" + post + ", " + depth + ")", x.look(post, depth), due[Math.min(depth, 3)][post]);
             }
         }
-        NetWalkers twins = net(2, 0, 0, 1, 0, 0, 1, 1, 1);
+        NetWalkers twins = Nets.net(2, 0, 0, 1, 0, 0, 1, 1, 1);
         due("16 twins", twins.look(1, 5), 0);
-        due("16 a post's own doors", net(2, 0, 0, 1, 0, 0, 1, 0, 2, 1, 1, 1, 2).look(1, 9), 0);
+        due("16 a post's own doors", Nets.net(2, 0, 0, 1, 0, 0, 1, 0, 2, 1, 1, 1, 2).look(1, 9), 0);
         // Door 0 of post 0 leads to a door 1, that of post 1 to a door 2.
-        NetWalkers crossed = net(2, 0, 0, 0, 1, 0, 2, 1, 0, 1, 1, 1, 2);
+        NetWalkers crossed = Nets.net(2, 0, 0, 0, 1, 0, 2, 1, 0, 1, 1, 1, 2);
         due("16 other door numbers, depth 0", crossed.look(1, 0), 0);
         due("16 other door numbers, depth 1", crossed.look(1, 1), 1);
-        due("16 bad doors are not seen", bad(twins, 0, 0).look(1, 20), 0);
-        due("16 all doors", net(2, 0, 0, 1, 1, 1, 0, 0, 1, 0, 2, 1, 3, 1, 2, 0, 3).look(1, 20), 0);
-        due("16 all doors but the last one", net(2, 0, 0, 1, 1, 1, 0, 0, 1, 0, 2, 0, 3, 1, 3, 1, 2).look(1, 20), 0);
-        due("16 the last door alone", net(3, 0, 0, 0, 1, 0, 2, 1, 2, 1, 0, 1, 1, 0, 3, 2, 0, 1, 3, 2, 1).look(1, 1), 1);
-        due("16 the least post has class 0", net(3, 0, 0, 1, 1, 1, 0, 2, 0).look(0, 0), 0);
-        due("16 one post", net(1).look(0, 20), 0);
+        due("16 bad doors are not seen", Nets.bad(twins, 0, 0).look(1, 20), 0);
+        due("16 all doors", Nets.net(2, 0, 0, 1, 1, 1, 0, 0, 1, 0, 2, 1, 3, 1, 2, 0, 3).look(1, 20), 0);
+        due("16 all doors but the last one", Nets.net(2, 0, 0, 1, 1, 1, 0, 0, 1, 0, 2, 0, 3, 1, 3, 1, 2).look(1, 20), 0);
+        due("16 the last door alone", Nets.net(3, 0, 0, 0, 1, 0, 2, 1, 2, 1, 0, 1, 1, 0, 3, 2, 0, 1, 3, 2, 1).look(1, 1), 1);
+        due("16 the least post has class 0", Nets.net(3, 0, 0, 1, 1, 1, 0, 2, 0).look(0, 0), 0);
+        due("16 one post", Nets.net(1).look(0, 20), 0);
         due("16 post 8", x.look(8, 0), UNKNOWN);
         due("16 post -1", x.look(-1, 21), UNKNOWN);
         due("16 depth 21", x.look(0, 21), OUTSIDE);
@@ -497,13 +418,13 @@ public final class PromiseTest {
     }
 
     private static void promise17Classes() {
-        NetWalkers x = line(8);
+        NetWalkers x = Nets.line(8);
         int[] due = {2, 5, 7, 8};
         for (int depth = 0; depth <= 20; depth++) {
             due("17 classes(" + depth + ")", x.classes(depth), due[Math.min(depth, 3)]);
         }
-        due("17 ring", ringNet(6).classes(20), 1);
-        due("17 one post", net(1).classes(0), 1);
+        due("17 ring", Nets.ring(6).classes(20), 1);
+        due("17 one post", Nets.net(1).classes(0), 1);
         due("17 depth 21", x.classes(21), OUTSIDE);
         due("17 depth -1", x.classes(-1), OUTSIDE);
         due("17 not ready", new NetWalkers().classes(0), STATE);
@@ -513,18 +434,18 @@ public final class PromiseTest {
     private static void promise18Deep() {
         int[] due = {0, 0, 1, 1, 1, 2, 2, 3};
         for (int posts = 1; posts <= 8; posts++) {
-            due("18 line of " + posts, line(posts).deep(), due[posts - 1]);
+            due("18 line of " + posts, Nets.line(posts).deep(), due[posts - 1]);
         }
-        due("18 ring", ringNet(6).deep(), 0);
-        due("18 bad doors are not seen", bad(ringNet(6), 0, 0).deep(), 0);
-        due("18 a deep net", deepNet().deep(), 6);
-        due("18 a deep net, classes(5)", deepNet().classes(5), 7);
-        due("18 a deep net, classes(6)", deepNet().classes(6), 8);
+        due("18 ring", Nets.ring(6).deep(), 0);
+        due("18 bad doors are not seen", Nets.bad(Nets.ring(6), 0, 0).deep(), 0);
+        due("18 a deep net", Nets.deep().deep(), 6);
+        due("18 a deep net, classes(5)", Nets.deep().classes(5), 7);
+        due("18 a deep net, classes(6)", Nets.deep().classes(6), 8);
         due("18 not ready", new NetWalkers().deep(), STATE);
     }
 
     private static void promise19Apart() {
-        NetWalkers x = line(8);
+        NetWalkers x = Nets.line(8);
         due("19 apart(0, 1)", x.apart(0, 1), 0);
         due("19 apart(0, 7)", x.apart(0, 7), 1);
         due("19 apart(7, 0)", x.apart(7, 0), 1);
@@ -532,9 +453,9 @@ public final class PromiseTest {
         due("19 apart(4, 5)", x.apart(4, 5), 2);
         due("19 apart(3, 4)", x.apart(3, 4), 3);
         due("19 apart(2, 2)", x.apart(2, 2), NONE);
-        due("19 ring", ringNet(7).apart(1, 5), NONE);
-        due("19 the deepest pair", deepestApart(deepNet()), 6);
-        due("19 one post", net(1).apart(0, 0), NONE);
+        due("19 ring", Nets.ring(7).apart(1, 5), NONE);
+        due("19 the deepest pair", deepestApart(Nets.deep()), 6);
+        due("19 one post", Nets.net(1).apart(0, 0), NONE);
         due("19 post 8", x.apart(0, 8), UNKNOWN);
         due("19 post -1", x.apart(-1, 0), UNKNOWN);
         due("19 not ready", new NetWalkers().apart(0, 1), STATE);
@@ -553,22 +474,22 @@ public final class PromiseTest {
 
     private static void promise20Meet() {
         // Row 1 1 1: from 0 the walker is at 0 1 2 3 ..., from 2 at 2 3 2 1; the other row is 0.
-        NetWalkers x = add(add(line4(), 0, 1, 1, 1), 1, 0);
+        NetWalkers x = Nets.add(Nets.add(Nets.line(4), 0, 1, 1, 1), 1, 0);
         due("20 at once", x.meet(2, 2, 20, true), 0);
-        due("20 on the way they do not meet", add(line3(), 0, 1).meet(0, 1, 0, false), NONE);
+        due("20 on the way they do not meet", Nets.add(Nets.line(3), 0, 1).meet(0, 1, 0, false), NONE);
         due("20 one row", x.meet(0, 2, 0, false), 2);
         due("20 the second waits", x.meet(0, 2, 2, false), 2);
         due("20 the first stands at its end", x.meet(0, 3, 3, false), 3);
         due("20 the second comes after its wait", x.meet(3, 0, 5, false), 3);
-        due("20 to one who stands at the end", add(line3(), 0, 0).meet(0, 2, 2, false), 3);
+        due("20 to one who stands at the end", Nets.add(Nets.line(3), 0, 0).meet(0, 2, 2, false), 3);
         due("20 the other row", x.meet(0, 2, 0, true), 1);
-        due("20 as if come by door 0", add(net(2, 0, 0, 1, 0, 0, 1, 0, 2), 0, 0).meet(0, 1, 5, true), 1);
-        due("20 the second, too", add(net(2, 0, 0, 1, 0, 0, 1, 0, 2), 1, 0).meet(1, 0, 5, true), 6);
+        due("20 as if come by door 0", Nets.add(Nets.net(2, 0, 0, 1, 0, 0, 1, 0, 2), 0, 0).meet(0, 1, 5, true), 1);
+        due("20 the second, too", Nets.add(Nets.net(2, 0, 0, 1, 0, 0, 1, 0, 2), 1, 0).meet(1, 0, 5, true), 6);
         due("20 past one another", x.meet(0, 2, 1, true), NONE);
         due("20 the other row, and a wait", x.meet(1, 3, 1, true), 3);
-        due("20 after a long wait", add(net(2, 0, 0, 1, 0), 1, 0).meet(0, 1, 20, true), 21);
-        due("20 bad doors", bad(add(net(2, 0, 0, 1, 0), 1, 0), 1, 0).meet(0, 1, 20, true), NONE);
-        due("20 nobody walks", net(2, 0, 0, 1, 0).meet(0, 1, 0, true), NONE);
+        due("20 after a long wait", Nets.add(Nets.net(2, 0, 0, 1, 0), 1, 0).meet(0, 1, 20, true), 21);
+        due("20 bad doors", Nets.bad(Nets.add(Nets.net(2, 0, 0, 1, 0), 1, 0), 1, 0).meet(0, 1, 20, true), NONE);
+        due("20 nobody walks", Nets.net(2, 0, 0, 1, 0).meet(0, 1, 0, true), NONE);
         due("20 post 4", x.meet(4, 0, 0, true), UNKNOWN);
         due("20 post -1", x.meet(0, -1, 21, true), UNKNOWN);
         due("20 wait 21", x.meet(0, 1, 21, false), OUTSIDE);
@@ -580,27 +501,27 @@ public final class PromiseTest {
 
     private static void promise21Worst() {
         // Of two posts, one walks and one waits for w: they meet at 1, but for wait 0, where both walk.
-        NetWalkers pair = net(2, 0, 0, 1, 0);
+        NetWalkers pair = Nets.net(2, 0, 0, 1, 0);
         due("21 nobody walks", pair.worst(0, true), NONE);
-        add(pair, 0, 0);
+        Nets.add(pair, 0, 0);
         due("21 one walks", pair.worst(20, true), 1);
         due("21 both walk", pair.worst(0, false), NONE);
         due("21 one of the waits never", pair.worst(3, false), NONE);
         // Only the second walks: the latest is behind the longest wait.
-        NetWalkers second = add(net(2, 0, 0, 1, 0), 1, 0);
+        NetWalkers second = Nets.add(Nets.net(2, 0, 0, 1, 0), 1, 0);
         due("21 behind the wait", second.worst(20, true), 21);
         due("21 behind a shorter wait", second.worst(7, true), 8);
         // Only the first walks, and it cannot leave the post that has more doors.
-        due("21 the pair 1, 0", add(net(2, 0, 0, 1, 0, 1, 1, 1, 2), 0, 1).worst(0, true), NONE);
-        due("21 the pair 0, 1", add(net(2, 0, 0, 1, 0, 0, 1, 0, 2), 0, 1).worst(0, true), NONE);
-        NetWalkers ring = add(ringNet(4), 0, 1, 0, 0, 1, 1, 1, 2, 9);
+        due("21 the pair 1, 0", Nets.add(Nets.net(2, 0, 0, 1, 0, 1, 1, 1, 2), 0, 1).worst(0, true), NONE);
+        due("21 the pair 0, 1", Nets.add(Nets.net(2, 0, 0, 1, 0, 0, 1, 0, 2), 0, 1).worst(0, true), NONE);
+        NetWalkers ring = Nets.add(Nets.ring(4), 0, 1, 0, 0, 1, 1, 1, 2, 9);
         due("21 ring", ring.worst(3, true), 5);
-        due("21 one post", net(1).worst(20, false), 0);
-        due("21 one post with doors", net(1, 0, 0, 0, 1).worst(0, true), 0);
+        due("21 one post", Nets.net(1).worst(20, false), 0);
+        due("21 one post with doors", Nets.net(1, 0, 0, 0, 1).worst(0, true), 0);
         due("21 w 21", ring.worst(21, true), OUTSIDE);
         due("21 w -1", ring.worst(-1, true), OUTSIDE);
         due("21 not ready", new NetWalkers().worst(0, true), STATE);
-        due("21 one post, not ready", net(1, 0, 0, 0, 2).worst(0, true), STATE);
+        due("21 one post, not ready", Nets.net(1, 0, 0, 0, 2).worst(0, true), STATE);
         due("21 OUTSIDE ahead of STATE", new NetWalkers().worst(21, true), OUTSIDE);
     }
 
@@ -621,12 +542,12 @@ public final class PromiseTest {
         due("22 n 1", x.ring(1, -1), OUTSIDE);
         due("22 n 5", x.ring(5, 0), OUTSIDE);
         due("22 n -1", x.ring(-1, -1), OUTSIDE);
-        due("22 the net is not asked", line3().ring(3, -1), 3);
+        due("22 the net is not asked", Nets.line(3).ring(3, -1), 3);
         due("22 the net stays", x.told(0), 3);
     }
 
     private static void promise23Told() {
-        NetWalkers x = bad(add(add(line4(), 0, 1, 2, 3), 1, 4, 5), 0, 0, 0, 3, 1, 1, 3, 2);
+        NetWalkers x = Nets.bad(Nets.add(Nets.add(Nets.line(4), 0, 1, 2, 3), 1, 4, 5), 0, 0, 0, 3, 1, 1, 3, 2);
         int[] due = {4, 3, 3, 2, 4};
         for (int what = 0; what <= 4; what++) {
             due("23 told(" + what + ")", x.told(what), due[what]);
@@ -638,12 +559,12 @@ public final class PromiseTest {
     // ---- all
 
     private static void refusedCallsChangeNothing() {
-        NetWalkers calm = add(add(bad(line4(), 1, 1), 0, 1, 0, 2), 1, 3, 1);
-        NetWalkers tried = add(add(bad(line4(), 1, 1), 0, 1, 0, 2), 1, 3, 1);
+        NetWalkers calm = Nets.add(Nets.add(Nets.bad(Nets.line(4), 1, 1), 0, 1, 0, 2), 1, 3, 1);
+        NetWalkers tried = Nets.add(Nets.add(Nets.bad(Nets.line(4), 1, 1), 0, 1, 0, 2), 1, 3, 1);
         refuse(tried);
         CHECKS.due("a net after refused calls", shown(tried), shown(calm));
-        NetWalkers rough = add(net(4, 0, 1, 3, 3), 0, 1, 2);
-        NetWalkers roughTried = add(net(4, 0, 1, 3, 3), 0, 1, 2);
+        NetWalkers rough = Nets.add(Nets.net(4, 0, 1, 3, 3), 0, 1, 2);
+        NetWalkers roughTried = Nets.add(Nets.net(4, 0, 1, 3, 3), 0, 1, 2);
         refuse(roughTried);
         CHECKS.due("a net that is not ready after refused calls", shown(roughTried), shown(rough));
     }
@@ -702,7 +623,7 @@ public final class PromiseTest {
 
     /** No number, however far off, is answered by anything but a refusal. */
     private static void farNumbersAreRefused() {
-        NetWalkers x = add(line3(), 0, 1, 2);
+        NetWalkers x = Nets.add(Nets.line(3), 0, 1, 2);
         int[] far = {Integer.MIN_VALUE, Integer.MIN_VALUE + 1, -1000, 1000, 1 << 30, Integer.MAX_VALUE};
         for (int n : far) {
             due("posts", x.posts(n), OUTSIDE);
