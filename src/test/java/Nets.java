@@ -120,6 +120,12 @@ final class Nets {
             16, 22, 17, 19, 18, 23, 20, 31, 27, 28}, 0, 1, 2, 6, 8, 9, 14, 17, 18, 22);
     }
 
+    /** No door leads to post 7; THE RING from post 0 is closed after 15359 steps. */
+    static NetWalkers shut() {
+        return found(new int[] {28, 10, 4, 25, 11, 27, 14, 20, 5, 23, 6, 17, 8, 21, 7, 2, 22, 16, 3, 24, 19, 13,
+            18, 1, 15, 29, 12, 26, 0, 9}, 10, 15, 20);
+    }
+
     /** Who goes by the next door from post 3 comes to the last post after 26 steps. */
     static NetWalkers lateByTheNextDoor() {
         return found(new int[] {24, 30, 5, 29, 4, 9, 27, 11, 20, 12, 17, 0, 8, 1, 26, 15, 14, 3, 13, 2, 18, 7,
