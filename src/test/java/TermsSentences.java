@@ -325,8 +325,13 @@ final class TermsSentences {
         // With 1 for ever from the middle: door 1 at first, and door 0 the last.
         NetWalkers barred = Nets.bad(Nets.star(4), 0, 1);
         s.due("by the next door", barred.next(0), 0b11011);
-        s.due("walks(0, 0)", Nets.add(Nets.line(3), 0, 0, 0, 1).walks(1, 0), 3);
-        s.due("fails(0)", Nets.add(Nets.line(3), 0, 0, 0, 1).fails(0), 0b101);
+        // Doors 1 and 2 of post 0 lead to one another, so that door 0 alone leads on.
+        for (int turn = 0; turn <= 2; turn++) {
+            NetWalkers loop = Nets.add(Nets.net(2, 0, 0, 1, 0, 0, 1, 0, 2), 0, turn);
+            s.due("walks(0, 0) with " + turn, loop.walks(0, 0), turn == 0 ? 1 : NONE);
+            s.due("fails(0) with " + turn, loop.fails(0), turn == 0 ? 0b00 : 0b01);
+            s.due("the first of two with " + turn, loop.meet(0, 1, 20, true), turn == 0 ? 1 : NONE);
+        }
     }
 
     private void byTurns() {
@@ -519,9 +524,12 @@ final class TermsSentences {
     private void alikeOneDeeper() {
         s.term(3, "at depth k + 1, if they looked so at depth k, and for each DOOR the other end has the same DOOR number "
             + "there, and its POST looks alike at depth k.");
-        // Door 0 of posts 2 and 3 leads to posts of one degree, by door 1; but they have not one degree.
-        s.due("they looked so at depth k: post 2", Nets.line(4).look(2, 1), 2);
-        s.due("they looked so at depth k: post 3", Nets.line(4).look(3, 1), 3);
+        // Door 0 of posts 0 and 1 leads to posts of degree 3, by door 1; but they have degrees 1 and 3.
+        NetWalkers looked = Nets.net(4, 0, 0, 2, 1, 1, 0, 3, 1, 1, 1, 2, 2, 1, 2, 3, 2, 2, 0, 3, 0);
+        for (int depth = 0; depth <= 20; depth++) {
+            s.due("they looked so at depth k: post 0, depth " + depth, looked.look(0, depth), 0);
+            s.due("they looked so at depth k: post 1, depth " + depth, looked.look(1, depth), 1);
+        }
         // Door 0 of post 0 leads to a door 1, that of post 1 to a door 2; all degrees are 3.
         NetWalkers crossed = Nets.net(2, 0, 0, 0, 1, 0, 2, 1, 0, 1, 1, 1, 2);
         s.due("the same door number, depth 0", crossed.classes(0), 1);
