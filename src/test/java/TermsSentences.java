@@ -545,6 +545,9 @@ final class TermsSentences {
         // Only the last of four doors is another one.
         NetWalkers last = Nets.net(3, 0, 0, 0, 1, 0, 2, 1, 2, 1, 0, 1, 1, 0, 3, 2, 0, 1, 3, 2, 1);
         s.due("each door, the last, too", last.apart(0, 1), 1);
+        NetWalkers allDoors = Nets.net(2, 0, 0, 1, 1, 1, 0, 0, 1, 0, 2, 1, 3, 1, 2, 0, 3);
+        s.due("each of four doors alike", allDoors.apart(0, 1), NONE);
+        s.due("each of four doors alike, depth 20", allDoors.classes(20), 1);
     }
 
     private void badDoorsAreNotSeen() {
